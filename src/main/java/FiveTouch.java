@@ -1416,8 +1416,9 @@ public final class FiveTouch {
             }
             core = frame.settled(wall.there);
             lawful.clear();
+            int many = setsOf(core);
             int set = 0;
-            for (int i = 0; i < setsOf(core); i++) {
+            for (int i = 0; i < many; i++) {
                 if (frame.isLawful(set)) {
                     lawful.add(set);
                 }
@@ -1429,8 +1430,9 @@ public final class FiveTouch {
             if (isDue(ONCE)) {
                 findLawful();
                 onceFound.clear();
+                int many = setsOf(core);
                 int left = 0;
-                for (int i = 0; i < setsOf(core); i++) {
+                for (int i = 0; i < many; i++) {
                     if (lawful.has(left)) {
                         int taken = wall.there & ~left;
                         onceFound.offer(taken, wall.weightOf(taken));
@@ -1458,8 +1460,9 @@ public final class FiveTouch {
         private void findStepSets() {
             marked.clear();
             int all = wall.there;
+            int many = setsOf(all);
             int left = all;
-            for (int i = 0; i < setsOf(all); i++) {
+            for (int i = 0; i < many; i++) {
                 if (left == all || lawful.has(left) && marked.hasWithOne(left, all)) {
                     marked.add(left);
                     stepsFound.offer(all & ~left, wall.weightOf(all & ~left));
@@ -1471,9 +1474,10 @@ public final class FiveTouch {
         /** Marks the sets from which the rest of the taken can still go, then goes by the lowest. */
         private void findOrder(int taken) {
             int left = wall.there & ~taken;
+            int many = setsOf(taken);
             marked.clear();
             int rest = 0;
-            for (int i = 0; i < setsOf(taken); i++) {
+            for (int i = 0; i < many; i++) {
                 if (rest == 0 || lawful.has(left | rest) && marked.hasWithoutOne(left | rest, rest)) {
                     marked.add(left | rest);
                 }
@@ -1511,8 +1515,9 @@ public final class FiveTouch {
                 findLawful();
                 fellingFound.clear();
                 marked.clear();
+                int many = setsOf(core);
                 int left = 0;
-                for (int i = 0; i < setsOf(core); i++) {
+                for (int i = 0; i < many; i++) {
                     if (lawful.has(left) || marked.hasWithoutOne(left, left)) {
                         marked.add(left);
                     } else {
@@ -1527,7 +1532,8 @@ public final class FiveTouch {
         Fewest mending() {
             if (isDue(MENDING)) {
                 mendingFound.clear();
-                for (int i = 0; i < 1 << Math.min(SPARES, wall.spares); i++) {
+                int many = 1 << Math.min(SPARES, wall.spares);
+                for (int i = 0; i < many; i++) {
                     if (frame.isLawful(wall.there | i << STONES)) {
                         mendingFound.offer(i);
                     }
@@ -1543,8 +1549,9 @@ public final class FiveTouch {
             }
             findLawful();
             marked.clear();
+            int many = setsOf(core);
             int set = 0;
-            for (int i = 0; i < setsOf(core); i++) {
+            for (int i = 0; i < many; i++) {
                 if (winningIn(set) != NONE) {
                     marked.add(set);
                 }
