@@ -1315,12 +1315,15 @@ public final class FiveTouch {
             sets = 0;
         }
 
-        void offer(int set, int itsWeight) {
+        void offer(int set, Wall wall) {
             sets++;
             int size = Integer.bitCount(set);
-            boolean better = size > many
-                || size == many && (itsWeight > weight || itsWeight == weight && set < which);
-            if (better) {
+            // Most sets are too small, and need not be weighed.
+            if (size < many) {
+                return;
+            }
+            int itsWeight = wall.weightOf(set);
+            if (size > many || itsWeight > weight || itsWeight == weight && set < which) {
                 many = size;
                 weight = itsWeight;
                 which = set;
@@ -1434,8 +1437,7 @@ public final class FiveTouch {
                 int left = 0;
                 for (int i = 0; i < many; i++) {
                     if (lawful.has(left)) {
-                        int taken = wall.there & ~left;
-                        onceFound.offer(taken, wall.weightOf(taken));
+                        onceFound.offer(wall.there & ~left, wall);
                     }
                     left = (left - core) & core;
                 }
@@ -1465,7 +1467,7 @@ public final class FiveTouch {
             for (int i = 0; i < many; i++) {
                 if (left == all || lawful.has(left) && marked.hasWithOne(left, all)) {
                     marked.add(left);
-                    stepsFound.offer(all & ~left, wall.weightOf(all & ~left));
+                    stepsFound.offer(all & ~left, wall);
                 }
                 left = (left - 1) & all;
             }

@@ -124,13 +124,14 @@ public final class ModelTest {
                     odd(1 + below(2)), odd(1 + below(isRare() ? 99 : 4))};
             case "put":
                 int what = odd(below(3));
-                return new int[] {odd(below(14)), what, odd(what == 0 ? 1 + below(99) : what == 1 ? below(4) : below(101))};
+                int value = what == 0 ? 1 + below(99) : what == 1 ? below(4) : below(101);
+                return new int[] {odd(below(14)), what, odd(value)};
             case "of":
                 return new int[] {odd(below(14)), odd(below(8))};
             case "terms":
                 return new int[] {odd(below(3)), odd(below(isRare() ? 13 : 4))};
             case "feed":
-                return new int[] {random.nextInt(), random.nextInt(), random.nextInt(), random.nextInt(), random.nextInt()};
+                return random.ints(5).toArray();
             case "end":
                 return new int[] {odd(below(60))};
             case "force":
@@ -140,7 +141,8 @@ public final class ModelTest {
             case "touches":
                 return new int[] {odd(below(14)), odd(below(4))};
             case "stand":
-                return new int[] {odd(isRare() ? below(1 << 14) : upTo() & ~(isRare() ? random.nextInt() : 1 << below(20)))};
+                int most = upTo() & ~(isRare() ? random.nextInt() : 1 << below(20));
+                return new int[] {odd(isRare() ? below(1 << 14) : most)};
             case "falls":
             case "night":
                 boolean night = name.equals("night");
@@ -163,7 +165,9 @@ public final class ModelTest {
             case "gate":
                 int x = below(12);
                 int y = below(5);
-                return new int[] {odd(x), odd(y), odd(Math.min(11, x + below(4))), odd(Math.min(7, y + below(3))), odd(below(3))};
+                int u = Math.min(11, x + below(4));
+                int v = Math.min(7, y + below(3));
+                return new int[] {odd(x), odd(y), odd(u), odd(v), odd(below(3))};
             case "winters":
                 return new int[] {odd(below(1000001)), odd(1 + below(40))};
             case "winter":

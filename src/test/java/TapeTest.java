@@ -80,6 +80,11 @@ public final class TapeTest {
         Check.feed(x, "\u0001");
         due("only a piece", x.row(), 0);
         due("is rubble", x.rubble(), 1);
+        x.feed(0x06060101, 0x01060401, 0x01010000, 0, 0);
+        x.end(9);
+        due("what was cut off does not count", x.row(), 1);
+        due("the second is rubble", x.rubble(), 1);
+        due("of the two, the first came", x.at(6, 6), 3);
     }
 
     private static void testRowRoom() {
