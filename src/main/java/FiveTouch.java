@@ -567,7 +567,7 @@ public final class FiveTouch {
             change(place, WIDE, wide);
             change(place, TALL, tall);
             change(place, WEIGHT, weight);
-            // The place may have been another stone's, ahead of a way back to an image.
+            // Whatever the place was ahead of that, a new stone has neither.
             change(place, FARM, 0);
             change(place, FROST, 0);
         }
