@@ -66,7 +66,8 @@ final class Edges {
     /** What a stone needs by texts: 1 at 3, 2, 4 wide, 5 tall, 6 heavy, of farm 1, with frost 9; NEED is 5. */
     void needs(String sentence, Object... textsAndNeeds) {
         for (int i = 0; i + 1 < textsAndNeeds.length; i += 2) {
-            on(15, sentence, "stone(0, 0, 1, 1, 1) = 0 | stone(3, 2, 4, 5, 6) = 1 | put(1, 1, 1) = 0 | put(1, 2, 9) = 0",
+            on(15, sentence, "stone(0, 0, 1, 1, 1) = 0 | stone(3, 2, 4, 5, 6) = 1 | put(1, 1, 1) = 0",
+                "put(1, 2, 9) = 0",
                 "law{" + textsAndNeeds[i] + "} = 0", "force(0) = -1 | touches(1, 0) = " + textsAndNeeds[i + 1]);
         }
     }

@@ -146,13 +146,15 @@ final class StoneEdges {
             stone(10, 5, 1, 1, 1) = -5 | count(5) = 2 | count(7) = 1 | count(8) = 1 | status() = -5
             """);
         e.on(2, "The first of these in that order.",
-            "stone(0, 0, 1, 1, 1) = 0 | stone(0, 0, 1, 1, 0) = -1 | stone(0, 0, 7, 1, 1) = -1 | stone(0, 0, 1, 1, 1) = -3");
+            "stone(0, 0, 1, 1, 1) = 0 | stone(0, 0, 1, 1, 0) = -1 | stone(0, 0, 7, 1, 1) = -1",
+            "stone(0, 0, 1, 1, 1) = -3");
     }
 
     private static void spare(Edges e) {
         e.on(3, "A SPARE STONE: its number.", """
-            spare(0, 0, 1, 1, 1) = 0 | stone(1, 0, 1, 1, 1) = 0 | spare(0, 0, 1, 1, 1) = -3 | spare(3, 0, 0, 1, 1) = -1
-            spare(2, 0, 1, 1, 1) = 1 | stone(3, 0, 1, 1, 1) = 1 | count(2) = 2 | count(0) = 2
+            spare(0, 0, 1, 1, 1) = 0 | stone(1, 0, 1, 1, 1) = 0 | spare(0, 0, 1, 1, 1) = -3
+            spare(3, 0, 0, 1, 1) = -1 | spare(2, 0, 1, 1, 1) = 1 | stone(3, 0, 1, 1, 1) = 1 | count(2) = 2
+            count(0) = 2
             """);
         e.on(3, "SPARE are STONES 0 .. 7 more (8 at most)", someSpares(7), """
             spare(9, 5, 1, 1, 1) = 7 | status() = 0 | count(2) = 8
@@ -188,16 +190,16 @@ final class StoneEdges {
             of(0, 5) = 1 | of(0, 4) = 50 | of(0, 6) = 0
             """);
         e.on(4, "FROST (2)", """
-            stone(0, 0, 1, 1, 50) = 0 | put(0, 2, -1) = -1 | put(0, 2, 0) = 0 | put(0, 2, 100) = 0 | put(0, 2, 101) = -1
-            of(0, 6) = 100 | put(0, 2, 1) = 100 | put(0, 2, MIN) = -1 | put(0, 2, MAX) = -1
+            stone(0, 0, 1, 1, 50) = 0 | put(0, 2, -1) = -1 | put(0, 2, 0) = 0 | put(0, 2, 100) = 0
+            put(0, 2, 101) = -1 | of(0, 6) = 100 | put(0, 2, 1) = 100 | put(0, 2, MIN) = -1 | put(0, 2, MAX) = -1
             of(0, 6) = 1 | of(0, 4) = 50 | of(0, 5) = 0
             """);
         e.on(4, "of a STONE: what it was. -1; -2.", """
-            stone(0, 0, 1, 1, 50) = 0 | put(0, -1, 1) = -1 | put(0, 3, 1) = -1 | put(0, MIN, 1) = -1 | put(0, MAX, 1) = -1
-            put(-1, 0, 1) = -2 | status() = -2 | put(0, 0, 1) = 50 | status() = 0 | put(1, 0, 1) = -2
-            put(13, 0, 1) = -2 | put(14, 0, 1) = -2 | put(MIN, 0, 1) = -2 | put(MAX, 0, 1) = -2 | put(32, 0, 1) = -2
-            count(5) = 4 | count(6) = 7 | stone(1, 0, 1, 1, 7) = 1 | put(1, 0, 8) = 7 | put(2, 0, 1) = -2
-            stand(0) = 3 | put(1, 0, 9) = 8 // one that is away, too
+            stone(0, 0, 1, 1, 50) = 0 | put(0, -1, 1) = -1 | put(0, 3, 1) = -1 | put(0, MIN, 1) = -1
+            put(0, MAX, 1) = -1 | put(-1, 0, 1) = -2 | status() = -2 | put(0, 0, 1) = 50 | status() = 0
+            put(1, 0, 1) = -2 | put(13, 0, 1) = -2 | put(14, 0, 1) = -2 | put(MIN, 0, 1) = -2 | put(MAX, 0, 1) = -2
+            put(32, 0, 1) = -2 | count(5) = 4 | count(6) = 7 | stone(1, 0, 1, 1, 7) = 1 | put(1, 0, 8) = 7
+            put(2, 0, 1) = -2 | stand(0) = 3 | put(1, 0, 9) = 8 // one that is away, too
             """);
         e.on(4, "of a STONE: what it was. -1; -2.", fourteen(), someSpares(1),
             "put(13, 0, 2) = 1 | put(14, 0, 2) = -2 | put(13, 0, 3) = 2");
@@ -220,7 +222,8 @@ final class StoneEdges {
             of(-1, 4) = -1 | of(0, 4) = 4 | of(1, 4) = -1 | of(14, 4) = -1 | of(MIN, 4) = -1 | of(MAX, 4) = -1
             of(32, 4) = -1 | of(32, 7) = -1 | of(-32, 7) = -1
             """);
-        e.on(5, "Of a STONE", fourteen(), someSpares(1), "of(13, 0) = 6 | of(13, 7) = 1 | of(14, 0) = -1 | of(14, 7) = -1");
+        e.on(5, "Of a STONE", fourteen(), someSpares(1),
+            "of(13, 0) = 6 | of(13, 7) = 1 | of(14, 0) = -1 | of(14, 7) = -1");
     }
 
     private static void terms(Edges e) {
@@ -230,14 +233,14 @@ final class StoneEdges {
             count(12) = 2 | count(13) = 1 | stone(3, 0, 1, 1, 1) = 0 | touches(0, 0) = 12
             """);
         e.on(6, "1 GROUND 0 .. 9 (2)", """
-            terms(1, -1) = -1 | terms(1, 10) = -1 | count(12) = 2 | terms(1, 0) = 2 | terms(1, 9) = 0 | terms(1, 10) = -1
-            terms(1, MIN) = -1 | terms(1, MAX) = -1 | count(12) = 9 | count(11) = 5 | count(13) = 1
-            stone(3, 0, 1, 1, 1) = 0 | touches(0, 1) = 9
+            terms(1, -1) = -1 | terms(1, 10) = -1 | count(12) = 2 | terms(1, 0) = 2 | terms(1, 9) = 0
+            terms(1, 10) = -1 | terms(1, MIN) = -1 | terms(1, MAX) = -1 | count(12) = 9 | count(11) = 5
+            count(13) = 1 | stone(3, 0, 1, 1, 1) = 0 | touches(0, 1) = 9
             """);
         e.on(6, "2 SIDE 0 .. 9 (1)", """
-            terms(2, -1) = -1 | terms(2, 10) = -1 | count(13) = 1 | terms(2, 0) = 1 | terms(2, 9) = 0 | terms(2, 10) = -1
-            terms(2, MIN) = -1 | terms(2, MAX) = -1 | count(13) = 9 | count(11) = 5 | count(12) = 2
-            stone(0, 3, 1, 1, 1) = 0 | touches(0, 1) = 9
+            terms(2, -1) = -1 | terms(2, 10) = -1 | count(13) = 1 | terms(2, 0) = 1 | terms(2, 9) = 0
+            terms(2, 10) = -1 | terms(2, MIN) = -1 | terms(2, MAX) = -1 | count(13) = 9 | count(11) = 5
+            count(12) = 2 | stone(0, 3, 1, 1, 1) = 0 | touches(0, 1) = 9
             """);
         e.on(6, "A TERM: what it was. -1.", """
             terms(-1, 1) = -1 | terms(3, 1) = -1 | terms(MIN, 1) = -1 | terms(MAX, 1) = -1 | count(5) = 4
@@ -255,8 +258,8 @@ final class StoneEdges {
             stand(2) = 3 | at(4, 3) = -1 | at(7, 3) = 1 | spare(0, 0, 1, 1, 1) = 0 | at(0, 0) = -1
             """);
         e.on(14, "The STONE in a CELL that is there. NONE.", """
-            stone(0, 0, 1, 1, 1) = 0 | stone(11, 0, 1, 1, 1) = 1 | stone(0, 7, 1, 1, 1) = 2 | stone(11, 7, 1, 1, 1) = 3
-            at(0, 0) = 0 | at(11, 0) = 1 | at(0, 7) = 2 | at(11, 7) = 3
+            stone(0, 0, 1, 1, 1) = 0 | stone(11, 0, 1, 1, 1) = 1 | stone(0, 7, 1, 1, 1) = 2
+            stone(11, 7, 1, 1, 1) = 3 | at(0, 0) = 0 | at(11, 0) = 1 | at(0, 7) = 2 | at(11, 7) = 3
             at(-1, 0) = -1 | at(12, 0) = -1 | at(0, -1) = -1 | at(0, 8) = -1 | at(12, 7) = -1 | at(11, 8) = -1
             at(MIN, 0) = -1 | at(MAX, 7) = -1 | at(0, MIN) = -1 | at(11, MAX) = -1 | count(5) = 0
             """);
@@ -268,9 +271,9 @@ final class StoneEdges {
             stand(0b10000000000001) = 16383 | there() = 0b10000000000001 | take(0b1) = 2 | there() = 0
             """);
         e.on(18, "-1 (others than STONES)", "stand(0) = 0 | stand(1) = -1", """
-            stone(0, 0, 1, 1, 1) = 0 | stone(5, 5, 1, 1, 1) = 1 | stand(0b11) = 3 | stand(0b100) = -1 | stand(0b101) = -1
-            status() = -1 | there() = 3 | stand(0) = 3 | status() = 0 | stand(-1) = -1 | stand(MIN) = -1 | stand(MAX) = -1
-            there() = 0 | stand(0b10) = 0 | count(5) = 6
+            stone(0, 0, 1, 1, 1) = 0 | stone(5, 5, 1, 1, 1) = 1 | stand(0b11) = 3 | stand(0b100) = -1
+            stand(0b101) = -1 | status() = -1 | there() = 3 | stand(0) = 3 | status() = 0 | stand(-1) = -1
+            stand(MIN) = -1 | stand(MAX) = -1 | there() = 0 | stand(0b10) = 0 | count(5) = 6
             """);
         e.on(18, "-1 (others than STONES)", fourteen(), """
             stand(16383) = 16383 | stand(16384) = -1 | stand(0b10000000000000) = 16383 | stand(32767) = -1

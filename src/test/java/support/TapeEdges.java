@@ -62,7 +62,8 @@ final class TapeEdges {
             end(20) = 20 | count(4) = 20 | end(19) = 19 | count(4) = 19 | end(20) = -1 | count(4) = 19 | end(10) = 10
             row() = 2 | rubble() = 0 | of(0, 4) = 1 | of(1, 4) = 2 | count(4) = 0
             """);
-        e.on(8, "NONE, if it has not so many, or n is below 0.", "end(1) = -1 | end(0) = 0 | end(-1) = -1", FOUR + " = 20", """
+        e.on(8, "NONE, if it has not so many, or n is below 0.", "end(1) = -1 | end(0) = 0 | end(-1) = -1",
+            FOUR + " = 20", """
             end(21) = -1 | end(-1) = -1 | end(MIN) = -1 | end(MAX) = -1 | count(4) = 20 | end(20) = 20
             end(1) = 1 | end(2) = -1 | end(0) = 0 | end(1) = -1 | count(4) = 0 | count(5) = 0 | status() = 0
             """);
@@ -90,7 +91,8 @@ final class TapeEdges {
     }
 
     private static void row(Edges e) {
-        e.on(9, "-6 the TAPE is empty.", "row() = -6 | status() = -6 | count(9) = 1 | " + FOUR + " = 20 | end(0) = 0", """
+        e.on(9, "-6 the TAPE is empty.", "row() = -6 | status() = -6 | count(9) = 1 | " + FOUR + " = 20 | end(0) = 0",
+            """
             row() = -6 | count(9) = 2 | count(0) = 0 | feed(0, 0, 0, 0, 0) = 20 | end(1) = 1
             row() = 0 | status() = 0 | count(9) = 2 | row() = -6 | status() = -6 | count(9) = 3
             """);
@@ -99,8 +101,8 @@ final class TapeEdges {
             FOUR + " = 20 | row() = 0 | count(4) = 0 | count(0) = 4 | status() = 0 // there is a stone in each place",
             "count(5) = 0 | count(7) = 0 | count(8) = 0");
         e.on(9, "x, y, WIDE, TALL, WEIGHT (FARM, FROST 0)", """
-            feed(0x05020306, 0x63000000, 0, 0, 0) = 20 | end(5) = 5 | row() = 1 | of(0, 0) = 5 | of(0, 1) = 2 | of(0, 2) = 3
-            of(0, 3) = 6 | of(0, 4) = 99 | of(0, 5) = 0 | of(0, 6) = 0 | of(0, 7) = 1
+            feed(0x05020306, 0x63000000, 0, 0, 0) = 20 | end(5) = 5 | row() = 1 | of(0, 0) = 5 | of(0, 1) = 2
+            of(0, 2) = 3 | of(0, 3) = 6 | of(0, 4) = 99 | of(0, 5) = 0 | of(0, 6) = 0 | of(0, 7) = 1
             """);
         for (int bytes = 1; bytes <= 11; bytes++) {
             e.on(9, "one within which the TAPE ends", FOUR + " = 20 | end(" + bytes + ") = " + bytes,
@@ -137,7 +139,8 @@ final class TapeEdges {
             row() = 0 | rubble() = 1 | status() = 0 | count(4) = 0
             """);
         e.on(9, "one for which there is no room is RUBBLE: none.", "fed{" + cells(80) + "} = 400",
-            "row() = 14 | rubble() = 66 | count(0) = 14 | there() = 16383 | count(4) = 0 | at(1, 1) = 13 | at(2, 1) = -1");
+            "row() = 14 | rubble() = 66 | count(0) = 14 | there() = 16383 | count(4) = 0 | at(1, 1) = 13",
+            "at(2, 1) = -1");
     }
 
     private static void rubble(Edges e) {
