@@ -175,9 +175,11 @@ final class ThiefEdges {
         e.on(26, "the fewest STONES, TAKEN at once, behind whose FALL none is there", ROW_OF_THREE,
             "fell(0) = 2 | fell(1) = 0b011 | fell(2) = 2 | terms(0, 3) = 2 | fell(0) = 0 | terms(0, 0) = 3",
             "fell(0) = 3 | fell(1) = 7");
-        e.on(26, "the fewest STONES, TAKEN at once, behind whose FALL none is there", ROW_OF_THREE,
-            "terms(0, 0) = 2 | oneByOne(3) = 7 | game(2) = 3 | terms(0, 2) = 0 | fell(0) = 2 | fell(1) = 0b011",
-            "fell(2) = 2 // asked anew");
+        e.on(26, "the fewest STONES, TAKEN at once, behind whose FALL none is there", """
+            terms(0, 0) = 5 | stone(3, 3, 1, 1, 1) = 0 | stone(5, 3, 1, 1, 5) = 1 | stone(4, 3, 1, 1, 5) = 2
+            fell(0) = 3 | oneByOne(2) = 0b110 | terms(0, 1) = 0 // asked anew
+            fell(0) = 1 | fell(1) = 0b100 | fell(2) = 1
+            """);
         e.on(26, "the fewest STONES, TAKEN at once, behind whose FALL none is there", fourteenFree(),
             "fell(0) = 14 | fell(1) = 16383 | fell(2) = 1 | terms(0, 12) = 0 | fell(0) = 0 | fell(2) = 1");
         e.on(26, "the fewest STONES, TAKEN at once, behind whose FALL none is there", StoneEdges.fourteen(),

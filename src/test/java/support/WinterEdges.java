@@ -6,6 +6,7 @@ final class WinterEdges {
     static void run(Edges e) {
         numbers(e);
         draws(e);
+        allDrawsFirst(e);
         frost(e);
         wraps(e);
         putBack(e);
@@ -55,6 +56,17 @@ final class WinterEdges {
             winter(1) = 0b111 // 45; then 41 is that of 0, 89 its own
             put(1, 2, 90) = 42 | winters(0, 1) = 1 | winter(0) = 0b001 // taken, and one put back
             winters(0, 2) = 2 | winter(1) = 0b011 // it has no draw while it is away: 41 is that of 0
+            """);
+    }
+
+    /** 1 falls if 0 is taken, but all draws come ahead of the fall: 2 has the third of them. */
+    private static void allDrawsFirst(Edges e) {
+        e.on(31, "a DRAW of 100: it is TAKEN, if that is below its FROST; a FALL.",
+            "terms(0, 0) = 5 | stone(3, 3, 1, 1, 1) = 0 | stone(4, 3, 1, 1, 1) = 1 | stone(8, 3, 1, 1, 1) = 2",
+            "law{needs 1 if stone=1} = 0", """
+            force(0) = -1 | put(0, 2, 46) = 0 | put(2, 2, 42) = 0 | winters(0, 1) = 2 | winter(0) = 0b101
+            put(2, 2, 90) = 42 | winters(0, 1) = 1 | winter(0) = 0b001 // 89 is its draw
+            put(0, 2, 45) = 46 | put(2, 2, 42) = 90 | winters(0, 1) = 3 | winter(0) = 0b111
             """);
     }
 
