@@ -87,7 +87,8 @@ public final class FaceTest {
     }
 
     private static void testText(String text) {
-        String code = text.replaceAll("(?s)/\\*.*?\\*/", "").replaceAll("//[^\n]*", "").replaceAll("\"[^\"\n]*\"", "\"\"");
+        String code = text.replaceAll("(?s)/\\*.*?\\*/", "").replaceAll("//[^\n]*", "")
+            .replaceAll("\"[^\"\n]*\"", "\"\"");
         for (String word : BARRED) {
             CHECK.isSo("'" + word + "' is not there", !Pattern.compile("\\b" + word + "\\b").matcher(code).find());
         }

@@ -134,7 +134,8 @@ public final class LawTest {
         due("8 of both", Check.law(x, "bound if((((([[[1]]]=1)))))"), 4);
         fault("bound if((((([[[[1]]]]=1)))))", 16);
         fault("bound if" + "(".repeat(9) + "1=1" + ")".repeat(9), 16);
-        due("8, again and again", Check.law(x, "needs " + ("[".repeat(8) + "1" + "]".repeat(8) + "+").repeat(5) + "1"), 5);
+        String eight = "[".repeat(8) + "1" + "]".repeat(8);
+        due("8, again and again", Check.law(x, "needs " + (eight + "+").repeat(5) + "1"), 5);
 
         FiveTouch y = new FiveTouch();
         due("a hundred times not", Check.law(y, "bound if " + "not ".repeat(96) + "x=0"), 0);

@@ -10,8 +10,8 @@ import java.util.Random;
 public final class WildTest {
     private static final int[] NUMBERS = {
         Integer.MIN_VALUE, Integer.MIN_VALUE + 1, -1000000, -7, -2, -1, 0, 1, 2, 3, 4, 5, 6, 7, 8, 11, 12, 13, 14, 15,
-        21, 22, 31, 32, 33, 63, 64, 99, 100, 255, 399, 400, 1000, 16383, 16384, 1000000, 1000001, 0x626f756e, 0x6e656564,
-        0x7320783b, Integer.MAX_VALUE - 1, Integer.MAX_VALUE};
+        21, 22, 31, 32, 33, 63, 64, 99, 100, 255, 399, 400, 1000, 16383, 16384, 1000000, 1000001, 0x626f756e,
+        0x6e656564, 0x7320783b, Integer.MAX_VALUE - 1, Integer.MAX_VALUE};
 
     public static void main(String[] args) throws IllegalAccessException {
         Check check = new Check("WildTest");

@@ -33,11 +33,11 @@ final class Check {
     }
 
     /** Feeds a text, a byte for each character, to an empty tape and cuts what the last twenty had too many. */
-    static void feed(FiveTouch x, String text) {
+    static void feed(FiveTouch wall, String text) {
         for (int i = 0; i < text.length(); i += 20) {
-            x.feed(four(text, i), four(text, i + 4), four(text, i + 8), four(text, i + 12), four(text, i + 16));
+            wall.feed(four(text, i), four(text, i + 4), four(text, i + 8), four(text, i + 12), four(text, i + 16));
         }
-        x.end(text.length());
+        wall.end(text.length());
     }
 
     static int law(FiveTouch x, String text) {

@@ -1,13 +1,8 @@
 import java.io.IOException;
-import java.lang.reflect.InvocationTargetException;
-import java.lang.reflect.Method;
-import java.lang.reflect.Modifier;
 import java.nio.file.Files;
 import java.nio.file.Path;
 import java.util.ArrayList;
-import java.util.HashMap;
 import java.util.List;
-import java.util.Map;
 import java.util.Set;
 import java.util.TreeSet;
 import java.util.regex.Matcher;
@@ -26,18 +21,10 @@ final class Edges {
     private static final Path DOCUMENT = Path.of("../shared/DOC.md");
 
     private final Check check = new Check("EdgesTest");
-    private final Map<String, Method> face = new HashMap<>();
+    private final Calls calls = new Calls();
     private final Set<Integer> promises = new TreeSet<>();
     private final List<String> sentences = new ArrayList<>();
     private int runs;
-
-    Edges() {
-        for (Method m : FiveTouch.class.getDeclaredMethods()) {
-            if (Modifier.isPublic(m.getModifiers())) {
-                face.put(m.getName(), m);
-            }
-        }
-    }
 
     /** A sentence in the document's own words, and a run that would go otherwise if it were broken. */
     void on(int promise, String sentence, String... run) {
@@ -47,8 +34,8 @@ final class Edges {
         FiveTouch x = new FiveTouch();
         for (String lines : run) {
             for (String line : lines.split("\n")) {
-                String calls = line.replaceAll("(^| +)// .*", "").trim();
-                for (String call : calls.split(" \\| ")) {
+                String told = line.replaceAll("(^| +)// .*", "").trim();
+                for (String call : told.split(" \\| ")) {
                     if (!call.isEmpty()) {
                         due(promise, sentence, x, call.trim());
                     }
@@ -93,38 +80,12 @@ final class Edges {
         Matcher plain = CALL.matcher(call);
         if (text.matches()) {
             Check.feed(x, bytes(text.group(2)));
-            check.due(told, text.group(1).equals("law") ? x.law() : x.count(4), number(text.group(3)));
+            check.due(told, text.group(1).equals("law") ? x.law() : x.count(4), Calls.number(text.group(3)));
         } else if (plain.matches()) {
-            check.due(told, answer(x, plain.group(1), plain.group(2)), number(plain.group(3)));
+            check.due(told, calls.answer(x, plain.group(1), plain.group(2)), Calls.number(plain.group(3)));
         } else {
             throw new IllegalStateException("not a call: " + told);
         }
-    }
-
-    private int answer(FiveTouch x, String name, String list) {
-        String[] parts = list.trim().isEmpty() ? new String[0] : list.split(",");
-        Object[] values = new Object[parts.length];
-        for (int i = 0; i < parts.length; i++) {
-            values[i] = number(parts[i]);
-        }
-        Method method = face.get(name);
-        if (method == null || method.getParameterCount() != parts.length) {
-            throw new IllegalStateException("no such call: " + name + "(" + list + ")");
-        }
-        try {
-            return (Integer) method.invoke(x, values);
-        } catch (InvocationTargetException | IllegalAccessException e) {
-            throw new IllegalStateException(name + "(" + list + ") threw", e.getCause());
-        }
-    }
-
-    private static int number(String told) {
-        String text = told.trim();
-        if (text.equals("MIN") || text.equals("MAX")) {
-            return text.equals("MIN") ? Integer.MIN_VALUE : Integer.MAX_VALUE;
-        }
-        return text.startsWith("0b") ? Integer.parseInt(text.substring(2), 2)
-            : text.startsWith("0x") ? Integer.parseUnsignedInt(text.substring(2), 16) : Integer.parseInt(text);
     }
 
     private static String bytes(String text) {
